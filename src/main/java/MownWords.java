@@ -194,7 +194,7 @@ public final class MownWords {
         }
         row.weighWritten(meadow);
         row.choose(meadow);
-        return row.place(i);
+        return row.answer(i);
     }
 
     public int nearest(int strip, int what) {
@@ -235,7 +235,7 @@ public final class MownWords {
         }
         row.weighAllowed(meadow);
         row.choose(meadow);
-        return row.place(i);
+        return row.answer(i);
     }
 
     public int write(int word, int strip) {
@@ -734,7 +734,8 @@ public final class MownWords {
 
     /** The WORDS for most in the row of STRIPS, none on a STRIP of another one. */
     private static final class Row {
-        private static final int ABSENT = Integer.MIN_VALUE;
+        /** Below all that a WORD can be worth. */
+        private static final int ABSENT = -1000000;
 
         private final int[][] worths = new int[STRIPS][WORDS];
         /** Of each STRIP the most that is to be had from there on. */
@@ -775,7 +776,8 @@ public final class MownWords {
             }
         }
 
-        int place(int i) {
+        /** The sum (-1), how many (-2), the i-th as 10 STRIP and WORD. */
+        int answer(int i) {
             if (i == -1) {
                 return most[0];
             }
@@ -878,12 +880,12 @@ public final class MownWords {
         }
 
         private static void passOver(int[] keys, int bit) {
-            for (int without = 0; without <= ALL_CELLS; without++) {
-                int with = without | bit;
-                if (without != with) {
-                    int key = keys[without];
-                    keys[without] = Math.min(key, keys[with] + KEY_OFF);
-                    keys[with] = Math.min(keys[with], key + KEY_OFF);
+            for (int cells = 0; cells <= ALL_CELLS; cells++) {
+                int more = cells | bit;
+                if (more != cells) {
+                    int key = keys[cells];
+                    keys[cells] = Math.min(key, keys[more] + KEY_OFF);
+                    keys[more] = Math.min(keys[more], key + KEY_OFF);
                 }
             }
         }

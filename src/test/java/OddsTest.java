@@ -126,6 +126,8 @@ public final class OddsTest {
         Due.is("twice is more than once", brief("tt,t", 0), 3);
         Due.is("an alike row does not count", brief("own,own,ow", 0), 4);
         Due.is("nor for the other one", brief("own,own,ow", 1), 4);
+        Due.is("a row unlike in its first letter alone counts", brief("aba,cba", 0), 3);
+        Due.is("a row unlike in its last letter alone counts", brief("aba,abc", 0), 4 + 1);
         Due.is("all letters", brief("abc,ab,bc,ac", 0), 7);
         Due.is("the least set of two", brief("abcd,acd,bcd", 0), 3);
         Due.is("word 1", brief("abcd", 1), BAD);

@@ -204,6 +204,9 @@ public final class StripsTest {
         Due.is("hay of one strip", x.hay(5), 75);
         Due.is("hay of none", x.hay(0), 0);
         Due.is("hay of all", x.count(3), 155);
+        MownWords y = with("0");
+        y.cut(0);
+        Due.is("hay of all by owner 0", y.count(3), 75);
         Due.is("hay of owner 6", x.hay(6), MownWords.BAD);
         Due.is("hay of owner -1", x.hay(-1), MownWords.BAD);
     }

@@ -119,6 +119,9 @@ public final class WordsTest {
         Due.is("strip 3", x.nearest(3, 0), BAD);
         Due.is("strip -1", x.nearest(-1, 0), BAD);
         Due.is("no words", with("0", "").nearest(0, 0), NONE);
+        MownWords y = with("0", "t,i,t");
+        show(y, "t");
+        Due.is("the first word is as near as the last", y.nearest(0, 0), 0);
     }
 
     private static void may() {
@@ -206,6 +209,10 @@ public final class WordsTest {
         row("for less than is lost, none", x, true, 0);
         Due.is("nothing was mown for a plan", x.count(3), 0);
         row("none by no words", with("0", ""), true, 0);
+        MownWords y = with("0123", "h:21");
+        row("four for one", y, true, 4, 0, 10, 20, 30);
+        Due.strips(y, "01");
+        row("fewer strips", y, true, 2, 0, 10);
     }
 
     private static void planTies() {

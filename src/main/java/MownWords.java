@@ -813,16 +813,32 @@ public final class MownWords {
         }
     }
 
-    /** As what LETTERS are read, if each CELL may be taken for the other. */
+    /** As what LETTERS are read, if each CELL may be taken for the other. Its rows are made once, as a call is to make none. */
     private static final class Odds {
-        /** Of each set of CELLS the key of its closest LETTER: a long row, so made only when first asked for. */
-        private int[] closestKeys = null;
-        private final Tally[] tallies = new Tally[LETTERS];
-        private final long[] weights = new long[CELLS + 1];
+        private static final int MISTAKES = CELLS + 1;
+        /** The sets of CELLS that are unlike in the first 6 alone are as many as a long has bits: they are looked at together. */
+        private static final int LOW_CELLS = 6, LOW_SETS = 1 << LOW_CELLS, HIGH_SETS = 1 << CELLS - LOW_CELLS;
+
+        /** Of each LETTER, of each number of LOW_CELLS: the low sets (bit: set) that differ from it in so many. */
+        private final long[][] rings = new long[LETTERS][LOW_CELLS + 1];
+        /** In how many ways the counted LETTER reads as which: by how many CELLS are mistaken. */
+        private final int[][] ways = new int[LETTERS][MISTAKES];
+        private final long[] weights = new long[MISTAKES];
+        private int countedLetter = NONE;
+        private int countedFar = NONE;
+
+        Odds() {
+            for (int letter = 0; letter < LETTERS; letter++) {
+                for (int low = 0; low < LOW_SETS; low++) {
+                    rings[letter][Integer.bitCount(low ^ SHAPES[letter] % LOW_SETS)] |= 1L << low;
+                }
+            }
+        }
 
         int surenessOf(int letter, int c, int far) {
             weigh(c);
-            long odds = tallyOf(letter).oddsToRead(letter, far, weights);
+            countWays(letter, far);
+            long odds = oddsToRead(letter);
             // A thousand times the odds, in parts of 2 to the 60, is more than a long holds: so half of the bits at a time.
             int half = 30;
             long high = 1000 * (odds >> half);
@@ -832,11 +848,11 @@ public final class MownWords {
 
         int mistakeFor(int letter, int c, int far) {
             weigh(c);
-            Tally tally = tallyOf(letter);
+            countWays(letter, far);
             int likeliest = NONE;
             long most = 0;
             for (int other = 0; other < LETTERS; other++) {
-                long odds = other == letter ? 0 : tally.oddsToRead(other, far, weights);
+                long odds = other == letter ? 0 : oddsToRead(other);
                 if (odds > most) {
                     likeliest = other;
                     most = odds;
@@ -847,7 +863,7 @@ public final class MownWords {
 
         /** The odds, in parts of 16 to the 15, that just certain CELLS are mistaken: by how many these are. */
         private void weigh(int c) {
-            for (int mistaken = 0; mistaken <= CELLS; mistaken++) {
+            for (int mistaken = 0; mistaken < MISTAKES; mistaken++) {
                 long weight = 1;
                 for (int cell = 0; cell < CELLS; cell++) {
                     weight *= cell < mistaken ? c : 16 - c;
@@ -856,65 +872,51 @@ public final class MownWords {
             }
         }
 
-        private Tally tallyOf(int letter) {
-            if (closestKeys == null) {
-                closestKeys = newClosestKeys();
-            }
-            if (tallies[letter] == null) {
-                tallies[letter] = new Tally(SHAPES[letter], closestKeys);
-            }
-            return tallies[letter];
-        }
-
-        /** Sets differ CELL by CELL, so one pass for each CELL brings every LETTER to all sets. */
-        private static int[] newClosestKeys() {
-            int[] keys = new int[ALL_CELLS + 1];
-            Arrays.fill(keys, KEY_OFF * (CELLS + 1));
-            for (int letter = 0; letter < LETTERS; letter++) {
-                keys[SHAPES[letter]] = letter;
-            }
-            for (int cell = 0; cell < CELLS; cell++) {
-                passOver(keys, 1 << cell);
-            }
-            return keys;
-        }
-
-        private static void passOver(int[] keys, int bit) {
-            for (int cells = 0; cells <= ALL_CELLS; cells++) {
-                int more = cells | bit;
-                if (more != cells) {
-                    int key = keys[cells];
-                    keys[cells] = Math.min(key, keys[more] + KEY_OFF);
-                    keys[more] = Math.min(keys[more], key + KEY_OFF);
-                }
-            }
-        }
-    }
-
-    /** Of one LETTER in how many ways it reads as which: by how far off that is, and how many CELLS are mistaken. */
-    private static final class Tally {
-        private static final int OFFS = 8, MISTAKES = CELLS + 1;
-
-        private final int[] ways = new int[LETTERS * OFFS * MISTAKES];
-
-        Tally(int shape, int[] closestKeys) {
-            for (int cells = 0; cells < closestKeys.length; cells++) {
-                int off = closestKeys[cells] / KEY_OFF;
-                int letter = closestKeys[cells] % KEY_OFF;
-                if (off < OFFS && letter < LETTERS) {
-                    ways[(letter * OFFS + off) * MISTAKES + Integer.bitCount(cells ^ shape)]++;
-                }
-            }
-        }
-
-        long oddsToRead(int letter, int far, long[] weights) {
+        private long oddsToRead(int letter) {
             long odds = 0;
-            for (int off = 0; off <= far && off < OFFS; off++) {
-                for (int mistaken = 0; mistaken < MISTAKES; mistaken++) {
-                    odds += ways[(letter * OFFS + off) * MISTAKES + mistaken] * weights[mistaken];
-                }
+            for (int mistaken = 0; mistaken < MISTAKES; mistaken++) {
+                odds += ways[letter][mistaken] * weights[mistaken];
             }
             return odds;
+        }
+
+        private void countWays(int letter, int far) {
+            if (letter == countedLetter && far == countedFar) {
+                return;
+            }
+            countedLetter = letter;
+            countedFar = far;
+            for (int other = 0; other < LETTERS; other++) {
+                Arrays.fill(ways[other], 0);
+            }
+            for (int high = 0; high < HIGH_SETS; high++) {
+                countWaysOf(high, letter, far);
+            }
+        }
+
+        /** The nearest LETTERS take their sets first, of like ones the first: as these sets READ. */
+        private void countWaysOf(int high, int letter, int far) {
+            long left = -1;
+            for (int off = 0; off <= far && left != 0; off++) {
+                for (int other = 0; other < LETTERS; other++) {
+                    int lowOff = off - highOff(high, other);
+                    if (lowOff >= 0 && lowOff <= LOW_CELLS) {
+                        long sets = left & rings[other][lowOff];
+                        left &= ~sets;
+                        addWays(ways[other], sets, letter, highOff(high, letter));
+                    }
+                }
+            }
+        }
+
+        private void addWays(int[] waysToRead, long sets, int letter, int highMistaken) {
+            for (int mistaken = 0; mistaken <= LOW_CELLS && sets != 0; mistaken++) {
+                waysToRead[highMistaken + mistaken] += Long.bitCount(sets & rings[letter][mistaken]);
+            }
+        }
+
+        private static int highOff(int high, int letter) {
+            return Integer.bitCount(high ^ SHAPES[letter] / LOW_SETS);
         }
     }
 

@@ -6,6 +6,7 @@ public final class OddsTest {
         sure();
         taken();
         againstAllWays();
+        ofOneObject();
         fades();
         brief();
         Due.end();
@@ -54,6 +55,28 @@ public final class OddsTest {
                 Due.is("taken " + at, x.taken(letter, c), model.taken(letter, c));
             }
         }
+    }
+
+    /** What was counted for another LETTER, another FAR, another c, or before an IMAGE came back, is not taken for this one. */
+    private static void ofOneObject() {
+        MownWords x = new MownWords();
+        Model model = new Model();
+        x.image();
+        for (int turn = 0; turn < 120; turn++) {
+            int far = turn / 3 * 5 % 8;
+            int letter = turn / 2 * 7 % 26;
+            int c = turn * 4 % 9;
+            String at = letter + " by " + c + ", far " + far + " of one object";
+            x.set(2, far);
+            model.set(2, far);
+            Due.is("sure " + at, x.sure(letter, c), model.sure(letter, c));
+            Due.is("taken " + at, x.taken(letter, c), model.taken(letter, c));
+        }
+        x.set(2, 0);
+        Due.is("taken by far 0", x.taken(0, 1), 13);
+        Due.is("sure by far 0", x.sure(0, 1), 379);
+        x.restore();
+        Due.is("sure by far 3 again", x.sure(0, 1), 964);
     }
 
     private static void fades() {

@@ -1,81 +1,40 @@
 import com.sun.management.ThreadMXBean;
 import java.lang.management.ManagementFactory;
-import java.lang.reflect.Array;
-import java.lang.reflect.Field;
-import java.lang.reflect.Modifier;
-import java.util.IdentityHashMap;
-import java.util.Map;
 
-/** Rule 12 of LANGUAGE.md: a new object is small, and no call makes anything or makes it larger. */
+/** Rule 12 of LANGUAGE.md: a new object, and 512 of its dearest call, take little of the room that all calls of a run have. */
 public final class RoomTest {
-    private static final int CALLS = 75;
-    private static final int MOST_PARTS = 200, MOST_FIELDS_AND_ELEMENTS = 3000;
+    private static final int CALLS = 75, CALLS_OF_AN_OBJECT = 512;
+    /** What 7.3 million fields and elements take at the least, if they are ints. */
+    private static final long ROOM = 7_300_000L * 4;
+    private static final ThreadMXBean THREADS = (ThreadMXBean) ManagementFactory.getThreadMXBean();
 
-    private final Map<Object, Boolean> parts = new IdentityHashMap<>();
-    private int fieldsAndElements = 0;
-
-    public static void main(String[] args) throws ReflectiveOperationException {
-        MownWords x = new MownWords();
-        RoomTest fresh = roomOf(x);
-        Due.is("a new object is small: " + fresh.parts.size() + " objects and arrays", fresh.parts.size() <= MOST_PARTS ? 1 : 0, 1);
-        Due.is("a new object is small: " + fresh.fieldsAndElements + " fields and elements",
-            fresh.fieldsAndElements <= MOST_FIELDS_AND_ELEMENTS ? 1 : 0, 1);
-        for (int i = 0; i < CALLS; i++) {
-            call(x, i);
+    public static void main(String[] args) {
+        long made = 0;
+        long[] madeBy = new long[CALLS];
+        // The first turns bring what the machine itself makes when code is first used.
+        for (int turn = 0; turn < 3; turn++) {
+            long before = bytes();
+            MownWords x = new MownWords();
+            made = bytes() - before;
+            for (int i = 0; i < CALLS; i++) {
+                before = bytes();
+                call(x, i);
+                madeBy[i] = bytes() - before;
+            }
         }
-        RoomTest used = roomOf(x);
-        Due.is("objects and arrays after all calls", used.parts.size(), fresh.parts.size());
-        Due.is("fields and elements after all calls", used.fieldsAndElements, fresh.fieldsAndElements);
-        callsMakeNothing();
+        small("a new object", made, ROOM / 100);
+        for (int i = 0; i < CALLS; i++) {
+            small("call " + i, madeBy[i], ROOM / CALLS_OF_AN_OBJECT);
+        }
         Due.end();
     }
 
-    private static RoomTest roomOf(Object object) throws ReflectiveOperationException {
-        RoomTest room = new RoomTest();
-        room.add(object);
-        return room;
+    private static long bytes() {
+        return THREADS.getThreadAllocatedBytes(Thread.currentThread().getId());
     }
 
-    private void add(Object part) throws ReflectiveOperationException {
-        if (part == null || parts.put(part, true) != null) {
-            return;
-        }
-        if (part.getClass().isArray()) {
-            fieldsAndElements += Array.getLength(part);
-            for (int i = 0; i < Array.getLength(part) && !part.getClass().getComponentType().isPrimitive(); i++) {
-                add(Array.get(part, i));
-            }
-            return;
-        }
-        for (Field field : part.getClass().getDeclaredFields()) {
-            if (!Modifier.isStatic(field.getModifiers())) {
-                fieldsAndElements++;
-                field.setAccessible(true);
-                if (!field.getType().isPrimitive()) {
-                    add(field.get(part));
-                }
-            }
-        }
-    }
-
-    private static void callsMakeNothing() {
-        ThreadMXBean threads = (ThreadMXBean) ManagementFactory.getThreadMXBean();
-        long thread = Thread.currentThread().getId();
-        long[] made = new long[CALLS];
-        // The first turns bring what the machine itself makes when code is first used.
-        for (int turn = 0; turn < 3; turn++) {
-            MownWords x = new MownWords();
-            for (int i = 0; i < CALLS; i++) {
-                long before = threads.getThreadAllocatedBytes(thread);
-                call(x, i);
-                made[i] = threads.getThreadAllocatedBytes(thread) - before;
-            }
-        }
-        long silence = threads.getThreadAllocatedBytes(thread);
-        silence = threads.getThreadAllocatedBytes(thread) - silence;
-        for (int i = 0; i < CALLS; i++) {
-            Due.is("bytes made by call " + i, made[i], silence);
-        }
+    private static void small(String what, long bytes, long most) {
+        Due.is(what + " makes little: " + bytes + " bytes, of " + most, bytes <= most ? 1 : 0, 1);
     }
 
     /** Each call of the face, those that must come in an order in that order, and at last sure, taken of each LETTER. */

@@ -18,17 +18,11 @@ public final class WordsTest {
     }
 
     private static MownWords with(String owners, String words) {
-        MownWords x = new MownWords();
-        Due.strips(x, owners);
-        Due.words(x, words);
-        return x;
+        return Due.of(owners, words);
     }
 
-    /** Lets the row read as a text ('.': as nothing). */
     private static void show(MownWords x, String text) {
-        for (int strip = 0; strip < text.length(); strip++) {
-            Due.show(x, strip, text.charAt(strip) == '.' ? 0 : x.letter(text.charAt(strip) - 'a'));
-        }
+        Due.show(x, text);
     }
 
     /** Each of read (or of plan) in turn: the sum, how many, and each of them; then none. */

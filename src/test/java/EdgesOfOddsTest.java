@@ -10,6 +10,7 @@ public final class EdgesOfOddsTest {
         sureWithoutMistakes();
         thousandthsAreCut();
         oddsByFar();
+        oddsOfAllLetters();
         oddsAreOfNoStrip();
         takenForNoOtherOne();
         takenForTheFirst();
@@ -100,6 +101,23 @@ public final class EdgesOfOddsTest {
             Due.is("taken is h by far " + far, x.taken(H, 3), model.taken(H, 3));
             Due.is("sure of z by far " + far, x.sure(Z, 8), model.sure(Z, 8));
             Due.is("taken is z by far " + far, x.taken(Z, 8), model.taken(Z, 8));
+        }
+    }
+
+    /** "SURE", "TAKEN FOR": of each LETTER, by the least and the most that c and FAR may be, and FAR of one LETTER in turn. */
+    private static void oddsOfAllLetters() {
+        for (int letter = 0; letter < 26; letter++) {
+            MownWords x = new MownWords();
+            Model model = new Model();
+            for (int far : new int[] {3, 4, 7, 6, 0, 1}) {
+                x.set(2, far);
+                model.set(2, far);
+                for (int c = 1; c <= 8; c += 7) {
+                    String at = " " + letter + " by " + c + ", far " + far;
+                    Due.is("sure of" + at, x.sure(letter, c), model.sure(letter, c));
+                    Due.is("taken is" + at, x.taken(letter, c), model.taken(letter, c));
+                }
+            }
         }
     }
 

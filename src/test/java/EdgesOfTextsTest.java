@@ -28,6 +28,7 @@ public final class EdgesOfTextsTest {
         wordsAreTen();
         faultBeforeFull();
         tapeIsEmptyAfterWords();
+        nothingBehindTheTape();
         lettersTold();
         payNoughtTo99();
         payIsTenAtFirst();
@@ -406,6 +407,33 @@ public final class EdgesOfTextsTest {
             Due.is("it has but that one", x.strips(), 1);
         }
         Due.is("seven came", x.count(1), 7);
+    }
+
+    /** "empty then": of a longer text that stood there nothing is read behind a shorter one. */
+    private static void nothingBehindTheTape() {
+        MownWords x = new MownWords();
+        Due.is("too much", Due.words(x, "a:12345"), -22);
+        Due.is("a number to the end", Due.words(x, "a:12"), 1);
+        Due.is("12", x.told(0, -2), 12);
+        Due.is("a number begun", Due.words(x, "a:"), -22);
+        Due.is("letters", Due.words(x, "abcdef"), 1);
+        Due.is("fewer", Due.words(x, "uvw"), 1);
+        Due.is("three of them", x.told(2, -1), 3);
+        Due.is("w is the last", x.told(2, 2), 22);
+        Due.is("no fourth", x.told(2, 3), NONE);
+        Due.is("alike rows are alike", Due.words(x, "uv,uvw"), 2);
+        Due.is("and so they are no others", x.brief(2), 4);
+        Due.is("four words", Due.words(x, "a,b,c,d"), 4);
+        Due.is("one", Due.words(x, "a"), 1);
+        Due.is("nine strips", Due.strips(x, "012345012"), 9);
+        Due.is("one strip", Due.strips(x, "5"), 1);
+        MownWords y = new MownWords();
+        Due.is("a full tape to its last figure", Due.words(y, BLANKS.substring(4) + "a:98"), 1);
+        Due.is("98", y.told(0, -2), 98);
+        Due.is("a full tape to its last letter", Due.words(y, "a:1," + BLANKS.substring(5) + "z"), 2);
+        Due.is("a full tape to its colon", Due.words(y, BLANKS.substring(2) + "a:"), -100);
+        Due.is("a full tape to its comma", Due.words(y, BLANKS.substring(2) + "a,"), -100);
+        Due.is("a full tape to its owner", Due.strips(y, BLANKS.substring(1) + "4"), 1);
     }
 
     /** "its LETTER i (0 ..), how many (-1), PAY (-2)"; "NONE: it has no such LETTER". */

@@ -18,6 +18,8 @@ public final class EdgesOfWordsTest {
         readTheLesserWord();
         readAndSoOn();
         readGoesOn();
+        readAtTheLastWeek();
+        rowsOfFewerStrips();
         nearestOfThoseThatHaveRoom();
         nearestOfLikeOnesTheLeast();
         nearestInAllLetters();
@@ -234,6 +236,35 @@ public final class EdgesOfWordsTest {
         y.mow(0, T);
         y.mow(2, T);
         read("nothing but for nothing", y, 0, 0, 20);
+    }
+
+    /** "WRITTEN": READ too is what reads now, though it fades by the next WEEK. */
+    private static void readAtTheLastWeek() {
+        MownWords x = Due.of("01", "it:7");
+        x.write(0, 0);
+        x.weeks(1);
+        Due.is("it fades by the next week", x.fades(0, 0), 1);
+        read("it still", x, 7, 0);
+        x.weeks(1);
+        read("it no more", x, 0);
+    }
+
+    /** "in the row": what was read or planned where now no STRIPS are does not count. */
+    private static void rowsOfFewerStrips() {
+        for (int strips = 1; strips <= 9; strips++) {
+            MownWords x = Due.of("000000000", "t:50,it:80");
+            Due.is("nine planned", x.plan(-2), 9);
+            for (int strip = 0; strip < 9; strip++) {
+                x.mow(strip, T);
+            }
+            Due.is("nine read", x.read(-1), 450);
+            Due.strips(x, "000000000".substring(0, strips));
+            Due.is("read of " + strips, x.read(-1), 0);
+            Due.is("planned of " + strips, x.plan(-1), 10 * strips);
+            for (int i = 0; i <= 8; i++) {
+                Due.is("planned of " + strips + ": " + i, x.plan(i), i < strips ? 10 * i : NONE);
+            }
+        }
     }
 
     /** "of WORDS that have room from there on"; "NONE: none has room". */
@@ -516,7 +547,7 @@ public final class EdgesOfWordsTest {
         plan("hh and h", x, 60, 0, 21);
         x.feud(0, 1, true);
         plan("a feud", x, 3, 1, 11, 21);
-        x.fault(1, H, 0);
+        x.fault(1, 7, 0);
         plan("a cell of it eaten", x, 2, 1, 21);
         x.set(2, 0);
         x.fault(0, 1, 0);
